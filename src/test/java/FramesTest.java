@@ -123,7 +123,7 @@ public final class FramesTest {
         check.freeBlocks("all free again", x, 0, 0, 0, 0, 0, 0, 1);
     }
 
-    /** Frames 0, 2 and 3 are free: 0 alone is a block of order 0, so it goes before 2. */
+    /** All but frame 6 are free: 7 alone is the block of order 0, so it goes before 0 .. 5. */
     private static void lowestOrderIsGivenFirst() {
         MovedFrames x = new MovedFrames();
         x.vmalloc(6);

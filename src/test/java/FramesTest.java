@@ -86,12 +86,15 @@ public final class FramesTest {
     private static void frameOfPages() {
         MovedFrames x = new MovedFrames();
         x.create();
-        x.mmap(0, 255, 1);
+        x.mmap(0, 240, 16);
         x.load(0, 4080);
+        x.load(0, 3840);
         x.vmalloc(2);
         check.same("frame(0, 255)", x.frame(0, 255), 2);
-        check.same("frame(-2, 0)", x.frame(-2, 0), 3);
-        check.same("frame(-2, 1)", x.frame(-2, 1), 4);
+        check.same("frame(0, 240)", x.frame(0, 240), 3);
+        check.same("frame(0, 241)", x.frame(0, 241), -1);
+        check.same("frame(-2, 0)", x.frame(-2, 0), 4);
+        check.same("frame(-2, 1)", x.frame(-2, 1), 5);
         check.same("frame(-2, 2)", x.frame(-2, 2), -1);
         int[] none = {-1, 256, Integer.MIN_VALUE, Integer.MAX_VALUE};
         for (int page : none) {
@@ -103,7 +106,7 @@ public final class FramesTest {
             check.same("frame(" + space + ", 255)", x.frame(space, 255), -1);
             check.same("frame(" + space + ", 0)", x.frame(space, 0), -1);
         }
-        check.same("free() after frame()", x.free(), 59);
+        check.same("free() after frame()", x.free(), 58);
     }
 
     private static void blocksSplitAndJoin() {

@@ -9,6 +9,7 @@ public final class RangesTest {
         lowestPagesInARow();
         onlyBeginningsAreFreed();
         noPagesInARow();
+        noPagesBehindTheLast();
         tooFewFrames();
         loadAndStore();
         check.end();
@@ -108,6 +109,18 @@ public final class RangesTest {
         x.vfree(16 * 63);
         check.same("vmalloc(2) at the end", x.vmalloc(2), 16 * 62);
         check.fault("load(-2, 1024)", () -> x.load(-2, 1024));
+    }
+
+    private static void noPagesBehindTheLast() {
+        MovedFrames x = new MovedFrames();
+        for (int i = 0; i < 64; i++) {
+            x.vmalloc(1);
+        }
+        for (int i = 1; i < 64; i += 2) {
+            x.vfree(16 * i);
+        }
+        check.notEnough("vmalloc(2) with page 63 alone", () -> x.vmalloc(2));
+        check.same("frame(-2, 64)", x.frame(-2, 64), -1);
     }
 
     private static void tooFewFrames() {

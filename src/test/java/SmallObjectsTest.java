@@ -78,6 +78,8 @@ public final class SmallObjectsTest {
         check.same("owner(0) with no object left", x.owner(0), 0);
         check.same("free() with no object left", x.free(), 64);
         check.badArgument("kfree(8) of a free slab", () -> x.kfree(8));
+        x.vmalloc(1);
+        check.same("kmalloc where a range has the frame", x.kmalloc(8), 16);
     }
 
     private static void slabChangesItsSize() {

@@ -73,11 +73,14 @@ public final class SpacesTest {
     private static void destroyForgetsRegions() {
         MovedFrames x = new MovedFrames();
         x.create();
+        x.create();
+        x.mmap(1, 0, 1);
         x.mmap(0, 0, 64);
         x.mmap(0, 192, 64);
         x.load(0, 0);
         x.destroy(0);
         x.create();
+        check.same("load of page 0 of the other space", x.load(1, 0), 0);
         check.fault("load of page 0", () -> x.load(0, 0));
         check.fault("load of page 255", () -> x.load(0, 4095));
         x.mmap(0, 0, 64);
@@ -259,8 +262,11 @@ public final class SpacesTest {
     private static void faults() {
         MovedFrames x = new MovedFrames();
         x.create();
+        x.create();
         x.mmap(0, 0, 1);
         x.mmap(0, 255, 1);
+        x.mmap(1, 0, 64);
+        x.mmap(1, 192, 64);
         x.load(0, 0);
         int[] wrong = {-1, -15, -16, -17, 16, 31, 16 * 254 + 15, 4096, 4097, 16 * 512,
             Integer.MIN_VALUE, Integer.MAX_VALUE};

@@ -5,11 +5,23 @@ final class Check {
         void run();
     }
 
+    private String sentence = "";
     private int wrong = 0;
+
+    /** The words of the document that the answers from here on are looked at for. */
+    void sentence(String words) {
+        sentence = words;
+    }
 
     void same(String what, long got, long due) {
         if (got != due) {
             tell(what + " answered " + got + ", due is " + due);
+        }
+    }
+
+    void same(String what, String got, String due) {
+        if (!got.equals(due)) {
+            tell(what + " is " + got + ", due is " + due);
         }
     }
 
@@ -37,19 +49,6 @@ final class Check {
         }
     }
 
-    /** Runs a call that is due to throw, and looks that nothing that can be seen has changed. */
-    void changesNothing(String what, MovedFrames x, Step call) {
-        String before = Picture.of(x);
-        try {
-            call.run();
-            tell(what + " threw nothing");
-        } catch (RuntimeException e) {
-            if (!before.equals(Picture.of(x))) {
-                tell(what + " threw and changed something");
-            }
-        }
-    }
-
     /** Looks at the number of free blocks of all orders, from order 0 on. */
     void freeBlocks(String what, MovedFrames x, int... due) {
         for (int order = 0; order < due.length; order++) {
@@ -59,7 +58,7 @@ final class Check {
 
     void tell(String what) {
         wrong++;
-        System.out.println(what);
+        System.out.println(sentence.isEmpty() ? what : "\"" + sentence + "\": " + what);
     }
 
     void end() {

@@ -105,10 +105,9 @@ public final class RangesTest {
                 check.same("vmalloc(" + n + ") from page " + first, x.vmalloc(n), 16 * first);
                 check.notEnough("vmalloc(1) then", () -> x.vmalloc(1));
             }
-            int length = n;
             MovedFrames longer = Arrange.free(gap << 10 | 0x1ffL << 20);
             check.same("the first gap is before a longer one", longer.vmalloc(n), 160);
-            check.same("the beginning of the longer one", longer.vmalloc(length), 320);
+            check.same("the beginning of the longer one", longer.vmalloc(n), 320);
         }
     }
 

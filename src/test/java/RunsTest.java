@@ -100,7 +100,7 @@ public final class RunsTest {
         String kinds = "rSXR";
         for (int kind = 0; kind < kinds.length(); kind++) {
             for (int order = 0; order <= 5; order++) {
-                for (int place = 0; place < 1 << order; place += place == 0 || order < 4 ? 1 : 5) {
+                for (int place = 0; place < 1 << order; place++) {
                     String letters = ".".repeat(place) + kinds.charAt(kind) + ".".repeat(63 - place);
                     MovedFrames x = Arrange.layout(letters);
                     check.same("contig(" + order + "), frame " + place + " is " + kinds.charAt(kind),
